@@ -5,6 +5,7 @@ public final class BackTest {
         backTwice(checks);
         neverKept(checks);
         forthAndBack(checks);
+        otherBonds(checks);
         wrongNumbers(checks);
         checks.end();
     }
@@ -57,6 +58,27 @@ public final class BackTest {
         checks.due("account(20, 4)", x.account(20, 4), 30);
         checks.due("sum(16)", x.sum(16), 8);
         checks.due("sum(17)", x.sum(17), 35);
+    }
+
+    private static void otherBonds(Checks checks) {
+        StakeLedger x = new StakeLedger();
+        x.bond(20, 3, 40, 1);
+        x.keep(0);
+        x.bond(22, 3, 5, 1);
+        x.unbond(20, 3, 40, 1);
+        x.bond(21, 4, 60, 1);
+        x.back(0);
+        checks.due("sum(19)", x.sum(19), 17);
+        checks.due("account(20, 4)", x.account(20, 4), 40);
+        checks.due("account(21, 5)", x.account(21, 5), 0);
+        checks.due("account(22, 4)", x.account(22, 4), 0);
+        x.unbond(20, 3, 40, 1);
+        x.keep(0);
+        x.bond(21, 4, 60, 1);
+        x.back(0);
+        checks.due("sum(19)", x.sum(19), 16);
+        checks.due("account(21, 5)", x.account(21, 5), 0);
+        checks.due("sum(4)", x.sum(4), 100);
     }
 
     private static void wrongNumbers(Checks checks) {

@@ -50,6 +50,8 @@ public final class BondTest {
         SetUp.fillBonds(x);
         checks.due("sum(19)", x.sum(19), 96);
         checks.due("one of the 96 grows: bond(109, 15, 2, 0)", x.bond(109, 15, 2, 0), 7);
+        checks.due("one of the 96 grows: bond(0, 0, 2, 0)", x.bond(0, 0, 2, 0), 102);
+        checks.due("sum(19)", x.sum(19), 96);
         checks.due("unbond(30, 0, 5, 0)", x.unbond(30, 0, 5, 0), 1);
         checks.due("sum(19)", x.sum(19), 95);
         checks.due("there is a place again: bond(150, 1, 6, 0)", x.bond(150, 1, 6, 0), 6);

@@ -4,6 +4,7 @@ public final class NextTest {
         Checks checks = new Checks();
         heights(checks);
         severalAtOnce(checks);
+        severalHeights(checks);
         placesAgain(checks);
         lastHeight(checks);
         checks.end();
@@ -38,6 +39,25 @@ public final class NextTest {
         checks.due("account(5, 0)", x.account(5, 0), 1039);
         checks.due("next() to 6", x.next(), 0);
         checks.due("sum(20)", x.sum(20), 201600);
+    }
+
+    /** Each stays due at its own height, also when those before it are gone. */
+    private static void severalHeights(Checks checks) {
+        StakeLedger x = new StakeLedger();
+        x.unbond(0, 0, 10, 0);
+        x.next();
+        x.unbond(1, 1, 20, 0);
+        x.unbond(2, 2, 30, 0);
+        x.next();
+        x.next();
+        x.unbond(3, 3, 40, 0);
+        checks.due("next() to 4", x.next(), 1);
+        checks.due("next() to 5", x.next(), 2);
+        checks.due("account(2, 0)", x.account(2, 0), 1029);
+        checks.due("account(3, 17)", x.account(3, 17), 40);
+        checks.due("next() to 6", x.next(), 0);
+        checks.due("next() to 7", x.next(), 1);
+        checks.due("account(3, 0)", x.account(3, 0), 1039);
     }
 
     private static void placesAgain(Checks checks) {

@@ -16,6 +16,7 @@ public final class ProposerTest {
         checks.due("proposer(0, 0)", x.proposer(0, 0), 0);
         checks.due("131 of 1600: proposer(1, 0)", x.proposer(1, 0), 1);
         checks.due("307 of 1600: proposer(0, 1)", x.proposer(0, 1), 3);
+        checks.due("58 of 1600: proposer(0, 94)", x.proposer(0, 94), 0);
         checks.due("438 of 1600: proposer(1, 1)", x.proposer(1, 1), 4);
         checks.due("1572 of 1600: proposer(12, 0)", x.proposer(12, 0), 15);
         checks.due("103 of 1600: proposer(13, 0)", x.proposer(13, 0), 1);
@@ -55,7 +56,9 @@ public final class ProposerTest {
         checks.due("all are jailed: proposer(5, 7)", x.proposer(5, 7), -1);
         x.free(50, 9, 0);
         checks.due("node 9 alone: proposer(5, 7)", x.proposer(5, 7), 9);
-        x.unbond(9, 9, 75, 0);
+        x.unbond(9, 9, 74, 0);
+        checks.due("node 9 with a power of 1: proposer(5, 7)", x.proposer(5, 7), 9);
+        x.unbond(9, 9, 1, 0);
         checks.due("node 9 without bonds: proposer(5, 7)", x.proposer(5, 7), -1);
     }
 
