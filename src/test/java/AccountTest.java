@@ -4,7 +4,12 @@ public final class AccountTest {
         Checks checks = new Checks();
         ordinary(checks);
         everyNode(checks);
-        wrongInputs(checks);
+        everyAccount(checks);
+        without(checks);
+        accounts(checks);
+        things(checks);
+        both(checks);
+        nothingChanges(checks);
         checks.end();
     }
 
@@ -26,6 +31,7 @@ public final class AccountTest {
         checks.due("account(0, 1)", x.account(0, 1), 100);
     }
 
+    /** "1 to 16: BOND with NODES 0 to 15", whether the node is jailed or not. */
     private static void everyNode(Checks checks) {
         StakeLedger x = new StakeLedger();
         for (int n = 0; n < 16; n++) {
@@ -38,15 +44,64 @@ public final class AccountTest {
         }
     }
 
-    private static void wrongInputs(Checks checks) {
+    private static void everyAccount(Checks checks) {
+        StakeLedger x = new StakeLedger();
+        for (int a = 0; a < 200; a++) {
+            x.pay(a, a, 1, 0);
+            checks.due("account(" + a + ", 0)", x.account(a, 0), a == 0 ? 1000 : 999);
+        }
+        checks.due("account(0, 0)", x.account(0, 0), 1199);
+    }
+
+    /** "(0 without)", and 0 of what there is nothing of. */
+    private static void without(Checks checks) {
+        StakeLedger x = new StakeLedger();
+        SetUp.unbondAll(x);
+        SetUp.nextTimes(x, 4);
+        SetUp.drain(x, 30);
+        for (int n = 0; n < 16; n++) {
+            checks.due("account(" + n + ", " + (n + 1) + ")", x.account(n, n + 1), 0);
+            checks.due("account(" + n + ", 17)", x.account(n, 17), 0);
+        }
+        checks.due("account(30, 0)", x.account(30, 0), 0);
+    }
+
+    /** "IndexOutOfBoundsException if there is no ACCOUNT a". */
+    private static void accounts(Checks checks) {
         checks.badIndex("account(-1, 0)", x -> x.account(-1, 0));
         checks.badIndex("account(200, 0)", x -> x.account(200, 0));
-        checks.badIndex("account(200, 5)", x -> x.account(200, 5));
-        checks.badIndex("account(200, 17)", x -> x.account(200, 17));
-        checks.badIndex("account(MAX, MAX)", x -> x.account(Integer.MAX_VALUE, Integer.MAX_VALUE));
+        checks.range("account(a, 0)", 0, 199, Checks.INDEX, (x, a) -> x.account(a, 0));
+        checks.range("account(a, 1)", 0, 199, Checks.INDEX, (x, a) -> x.account(a, 1));
+        checks.range("account(a, 16)", 0, 199, Checks.INDEX, (x, a) -> x.account(a, 16));
+        checks.range("account(a, 17)", 0, 199, Checks.INDEX, (x, a) -> x.account(a, 17));
+    }
+
+    /** "IllegalArgumentException for others." */
+    private static void things(Checks checks) {
         checks.badArgument("account(0, -1)", x -> x.account(0, -1));
         checks.badArgument("account(0, 18)", x -> x.account(0, 18));
-        checks.badArgument("account(199, MIN)", x -> x.account(199, Integer.MIN_VALUE));
-        checks.badArgument("account(199, MAX)", x -> x.account(199, Integer.MAX_VALUE));
+        checks.range("account(0, what)", 0, 17, Checks.ARGUMENT, (x, what) -> x.account(0, what));
+        checks.range("account(199, what)", 0, 17, Checks.ARGUMENT, (x, what) -> x.account(199, what));
+    }
+
+    /** Of the two that hold the one that stands first behind throws. */
+    private static void both(Checks checks) {
+        int[] noAccounts = {-1, 200, Integer.MIN_VALUE, Integer.MAX_VALUE};
+        int[] noThings = {-1, 18, Integer.MIN_VALUE, Integer.MAX_VALUE};
+        for (int a : noAccounts) {
+            for (int what : noThings) {
+                checks.badIndex("account(" + a + ", " + what + ")", x -> x.account(a, what));
+            }
+        }
+    }
+
+    private static void nothingChanges(Checks checks) {
+        checks.same("after account", x -> {
+            SetUp.busy(x);
+            for (int what = 0; what <= 17; what++) {
+                x.account(0, what);
+                x.account(4, what);
+            }
+        }, SetUp::busy);
     }
 }

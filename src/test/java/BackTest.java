@@ -3,10 +3,11 @@ public final class BackTest {
     public static void main(String[] args) {
         Checks checks = new Checks();
         backTwice(checks);
+        keptStatesStay(checks);
         neverKept(checks);
         forthAndBack(checks);
         otherBonds(checks);
-        wrongNumbers(checks);
+        numbers(checks);
         checks.end();
     }
 
@@ -26,7 +27,35 @@ public final class BackTest {
         }
     }
 
+    /** What goes on from a kept state leaves all that are kept as they are. */
+    private static void keptStatesStay(Checks checks) {
+        for (int k = 0; k < 8; k++) {
+            int number = k;
+            checks.same("after back(" + k + ") and calls", x -> {
+                SetUp.busy(x);
+                x.keep(1);
+                x.back(number);
+                x.next();
+                x.pay(1, 2, 3, 4);
+                x.bond(21, 9, 6, 4);
+                x.unbond(3, 3, 50, 4);
+                x.prove(5, 9, 1, 4);
+                x.back(1);
+            }, x -> {
+                SetUp.busy(x);
+                x.keep(1);
+            });
+        }
+    }
+
     private static void neverKept(Checks checks) {
+        for (int k = 1; k < 7; k++) {
+            int number = k;
+            checks.sameState("after back(" + k + ")", x -> {
+                SetUp.busy(x);
+                x.back(number);
+            }, Checks.NOTHING);
+        }
         StakeLedger x = new StakeLedger();
         SetUp.fillBonds(x);
         x.unbond(0, 0, 100, 0);
@@ -81,10 +110,10 @@ public final class BackTest {
         checks.due("sum(4)", x.sum(4), 100);
     }
 
-    private static void wrongNumbers(Checks checks) {
-        checks.refused("back(-1)", IndexOutOfBoundsException.class, SetUp::proveAll, x -> x.back(-1));
-        checks.refused("back(8)", IndexOutOfBoundsException.class, SetUp::proveAll, x -> x.back(8));
-        checks.badIndex("back(MAX)", x -> x.back(Integer.MAX_VALUE));
-        checks.badIndex("back(MIN)", x -> x.back(Integer.MIN_VALUE));
+    /** "IndexOutOfBoundsException if k is not 0 to 7." */
+    private static void numbers(Checks checks) {
+        checks.badIndex("back(-1)", x -> x.back(-1));
+        checks.badIndex("back(8)", x -> x.back(8));
+        checks.range("back(k)", 0, 7, Checks.INDEX, StakeLedger::back);
     }
 }

@@ -6,46 +6,46 @@ public final class KeepTest {
         keptStaysAsItWas(checks);
         keptAnew(checks);
         eightApart(checks);
-        wrongNumbers(checks);
+        fullAndEmpty(checks);
+        numbers(checks);
         checks.end();
     }
 
-    private static void busy(StakeLedger x) {
-        x.pay(50, 51, 10, 1);
-        x.bond(20, 3, 40, 1);
-        x.unbond(4, 4, 100, 2);
-        SetUp.nextTimes(x, 2);
-        x.prove(52, 3, 2, 3);
-        x.unbond(5, 5, 7, 2);
+    private static void stateGoesOn(Checks checks) {
+        for (int k = 0; k < 8; k++) {
+            int number = k;
+            checks.sameState("after keep(" + k + ")", x -> {
+                SetUp.busy(x);
+                x.keep(number);
+            }, SetUp::busy);
+        }
     }
 
-    private static void stateGoesOn(Checks checks) {
-        StakeLedger x = new StakeLedger();
-        busy(x);
-        x.keep(4);
-        StakeLedger twin = new StakeLedger();
-        busy(twin);
-        checks.same("after keep(4)", x, twin);
+    private static void changeAll(StakeLedger x) {
+        x.pay(60, 61, 500, 7);
+        x.bond(62, 9, 30, 8);
+        x.bond(0, 3, 3, 8);
+        x.unbond(6, 6, 92, 8);
+        x.prove(63, 3, 2, 8);
+        x.free(63, 0, 8);
+        x.prove(63, 15, 3, 8);
+        SetUp.nextTimes(x, 6);
+        x.prove(63, 15, 9, 8);
     }
 
     private static void keptStaysAsItWas(Checks checks) {
-        StakeLedger x = new StakeLedger();
-        busy(x);
-        x.keep(4);
-        x.pay(60, 61, 500, 7);
-        x.bond(62, 9, 30, 8);
-        x.unbond(6, 6, 100, 8);
-        SetUp.nextTimes(x, 6);
-        x.free(63, 3, 8);
-        x.prove(63, 3, 7, 8);
-        checks.due("back(4)", x.back(4), 2);
-        StakeLedger twin = new StakeLedger();
-        busy(twin);
-        checks.same("after back(4)", x, twin);
-        SetUp.nextTimes(x, 1);
-        checks.due("the proved height is 2 again: prove(63, 3, 3, 8)", x.prove(63, 3, 3, 8), 25);
-        checks.due("next() to 4", x.next(), 1);
-        checks.due("account(4, 0)", x.account(4, 0), 1099);
+        for (int k = 0; k < 8; k++) {
+            int number = k;
+            checks.same("after keep(" + k + "), changes and back(" + k + ")", x -> {
+                SetUp.busy(x);
+                x.keep(number);
+                changeAll(x);
+                x.back(number);
+            }, x -> {
+                SetUp.busy(x);
+                x.keep(number);
+            });
+        }
     }
 
     private static void keptAnew(Checks checks) {
@@ -63,12 +63,40 @@ public final class KeepTest {
         StakeLedger x = new StakeLedger();
         for (int k = 0; k < 8; k++) {
             x.next();
+            x.bond(20, k, 1 + k, 0);
             x.keep(k);
         }
         for (int k = 7; k >= 0; k--) {
             checks.due("back(" + k + ")", x.back(k), k + 1);
             checks.due("sum(21)", x.sum(21), k + 1);
+            checks.due("sum(19)", x.sum(19), 17 + k);
+            checks.due("account(20, " + (k + 1) + ")", x.account(20, k + 1), 1 + k);
         }
+    }
+
+    /** 96 bonds and 32 returns are kept, and so is a state without any bond. */
+    private static void fullAndEmpty(Checks checks) {
+        StakeLedger x = new StakeLedger();
+        SetUp.fillBonds(x);
+        SetUp.fillReturns(x);
+        x.keep(3);
+        x.back(0);
+        SetUp.unbondAll(x);
+        x.keep(4);
+        checks.due("back(3)", x.back(3), 0);
+        checks.due("sum(19)", x.sum(19), 96);
+        checks.due("sum(18)", x.sum(18), 32);
+        checks.due("account(109, 16)", x.account(109, 16), 5);
+        checks.due("account(15, 17)", x.account(15, 17), 6);
+        checks.due("bond(150, 1, 5, 0)", Checks.answer(x, y -> y.bond(150, 1, 5, 0)),
+            "throws.IllegalStateException");
+        checks.due("unbond(0, 0, 5, 0)", Checks.answer(x, y -> y.unbond(0, 0, 5, 0)),
+            "throws.IllegalStateException");
+        checks.due("back(4)", x.back(4), 0);
+        checks.due("sum(19)", x.sum(19), 0);
+        checks.due("sum(18)", x.sum(18), 16);
+        checks.due("proposer(0, 0)", x.proposer(0, 0), -1);
+        checks.due("bond(150, 1, 5, 0)", x.bond(150, 1, 5, 0), 5);
     }
 
     private static int kept(StakeLedger x, int k) {
@@ -76,10 +104,10 @@ public final class KeepTest {
         return 0;
     }
 
-    private static void wrongNumbers(Checks checks) {
+    /** "IndexOutOfBoundsException if k is not 0 to 7." */
+    private static void numbers(Checks checks) {
         checks.badIndex("keep(-1)", x -> kept(x, -1));
         checks.badIndex("keep(8)", x -> kept(x, 8));
-        checks.badIndex("keep(MAX)", x -> kept(x, Integer.MAX_VALUE));
-        checks.badIndex("keep(MIN)", x -> kept(x, Integer.MIN_VALUE));
+        checks.range("keep(k)", 0, 7, Checks.INDEX, KeepTest::kept);
     }
 }

@@ -1,11 +1,15 @@
+import java.util.function.Consumer;
+
 /** Promise 7. */
 public final class NextTest {
     public static void main(String[] args) {
         Checks checks = new Checks();
         heights(checks);
+        noReturns(checks);
         severalAtOnce(checks);
         severalHeights(checks);
-        placesAgain(checks);
+        allThirtyTwo(checks);
+        nothingElseChanges(checks);
         lastHeight(checks);
         checks.end();
     }
@@ -16,9 +20,19 @@ public final class NextTest {
             checks.due("next()", x.next(), 0);
             checks.due("sum(21)", x.sum(21), h);
         }
-        checks.due("no fee: account(0, 0)", x.account(0, 0), 1000);
     }
 
+    private static void noReturns(Checks checks) {
+        StakeLedger x = new StakeLedger();
+        checks.due("next() without returns", x.next(), 0);
+        x.unbond(3, 3, 10, 0);
+        SetUp.nextTimes(x, 4);
+        checks.due("sum(18)", x.sum(18), 0);
+        checks.due("next() when they are gone", x.next(), 0);
+        checks.due("account(3, 0)", x.account(3, 0), 1009);
+    }
+
+    /** "RETURNS that are due at it or before go back to BALANCES, in order: how many were". */
     private static void severalAtOnce(Checks checks) {
         StakeLedger x = new StakeLedger();
         x.unbond(3, 3, 10, 0);
@@ -60,23 +74,56 @@ public final class NextTest {
         checks.due("account(3, 0)", x.account(3, 0), 1039);
     }
 
-    private static void placesAgain(Checks checks) {
+    private static void allThirtyTwo(Checks checks) {
         StakeLedger x = new StakeLedger();
         SetUp.fillReturns(x);
-        SetUp.nextTimes(x, 3);
+        checks.due("next() to 1", x.next(), 0);
+        checks.due("next() to 2", x.next(), 0);
+        checks.due("next() to 3", x.next(), 0);
+        checks.due("sum(18) at 3", x.sum(18), 32);
         checks.due("next() to 4", x.next(), 32);
-        checks.due("unbond(0, 0, 1, 0)", x.unbond(0, 0, 1, 0), 1);
+        checks.due("sum(18) at 4", x.sum(18), 0);
+        for (int a = 1; a < 16; a++) {
+            checks.due("account(" + a + ", 0)", x.account(a, 0), 1004);
+        }
         checks.due("account(0, 0)", x.account(0, 0), 1036);
+        checks.due("unbond(0, 0, 1, 0)", x.unbond(0, 0, 1, 0), 1);
     }
 
-    /** The document frees the answers behind 512 calls; that this class keeps on is its own affair. */
+    /** No fee, no node, no bond: a busy object at height 3 has the first return due at 4. */
+    private static void nothingElseChanges(Checks checks) {
+        StakeLedger x = new StakeLedger();
+        StakeLedger before = new StakeLedger();
+        SetUp.busy(x);
+        SetUp.busy(before);
+        checks.due("next()", x.next(), 1);
+        for (int a = 0; a < 200; a++) {
+            int back = a == 4 ? 90 : 0;
+            checks.due("account(" + a + ", 0)", x.account(a, 0), before.account(a, 0) + back);
+        }
+        for (int what = 0; what <= 20; what++) {
+            int gone = what == 18 ? 1 : 0;
+            checks.due("sum(" + what + ")", x.sum(what), before.sum(what) - gone);
+        }
+    }
+
+    /**
+     * "IllegalStateException at 1000000." Only far behind 512 calls can a run come there, where the
+     * document frees the answers; that this class keeps on is its own affair.
+     */
     private static void lastHeight(Checks checks) {
-        checks.badState("next() at 1000000", x -> SetUp.nextTimes(x, 1000000), x -> x.next());
+        Consumer<StakeLedger> last = x -> {
+            SetUp.nextTimes(x, 1000000 - x.sum(21));
+            x.unbond(3, 3, 5, 0);
+        };
+        checks.badState("next() at 1000000", last, StakeLedger::next);
         StakeLedger x = new StakeLedger();
         SetUp.nextTimes(x, 999999);
         checks.due("next() at 999999", x.next(), 0);
         checks.due("sum(21)", x.sum(21), 1000000);
         checks.due("unbond(0, 0, 1, 0) at 1000000", x.unbond(0, 0, 1, 0), 1);
         checks.due("prove(0, 0, 1000000, 0)", x.prove(0, 0, 1000000, 0), 24);
+        checks.due("back(0)", x.back(0), 0);
+        checks.due("next() at 0", x.next(), 0);
     }
 }

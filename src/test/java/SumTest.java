@@ -3,8 +3,12 @@ public final class SumTest {
     public static void main(String[] args) {
         Checks checks = new Checks();
         ordinary(checks);
+        allJailed(checks);
+        full(checks);
+        empty(checks);
         nothingIsLost(checks);
-        wrongInputs(checks);
+        others(checks);
+        nothingChanges(checks);
         checks.end();
     }
 
@@ -32,6 +36,45 @@ public final class SumTest {
         checks.due("sum(21)", x.sum(21), 3);
     }
 
+    private static void allJailed(Checks checks) {
+        StakeLedger x = new StakeLedger();
+        SetUp.proveAll(x);
+        for (int n = 0; n < 16; n++) {
+            checks.due("sum(" + n + ")", x.sum(n), 0);
+        }
+        checks.due("sum(16)", x.sum(16), 65535);
+        checks.due("sum(17)", x.sum(17), 400);
+        checks.due("bonds with jailed nodes are bonds: sum(19)", x.sum(19), 16);
+        checks.due("sum(20)", x.sum(20), 201600);
+    }
+
+    private static void full(Checks checks) {
+        StakeLedger x = new StakeLedger();
+        SetUp.fillBonds(x);
+        SetUp.fillReturns(x);
+        for (int n = 0; n < 16; n++) {
+            checks.due("sum(" + n + ")", x.sum(n), 119);
+        }
+        checks.due("sum(18)", x.sum(18), 32);
+        checks.due("sum(19)", x.sum(19), 96);
+        checks.due("sum(20)", x.sum(20), 201600);
+    }
+
+    private static void empty(Checks checks) {
+        StakeLedger x = new StakeLedger();
+        SetUp.unbondAll(x);
+        for (int n = 0; n < 16; n++) {
+            checks.due("sum(" + n + ")", x.sum(n), 0);
+        }
+        checks.due("not jailed for it: sum(16)", x.sum(16), 0);
+        checks.due("sum(18)", x.sum(18), 16);
+        checks.due("sum(19)", x.sum(19), 0);
+        checks.due("sum(20)", x.sum(20), 201600);
+        SetUp.nextTimes(x, 4);
+        checks.due("sum(18)", x.sum(18), 0);
+        checks.due("sum(20)", x.sum(20), 201600);
+    }
+
     private static void nothingIsLost(Checks checks) {
         StakeLedger x = new StakeLedger();
         for (int i = 0; i < 80; i++) {
@@ -43,10 +86,19 @@ public final class SumTest {
         }
     }
 
-    private static void wrongInputs(Checks checks) {
+    /** "IllegalArgumentException for others." */
+    private static void others(Checks checks) {
         checks.badArgument("sum(-1)", x -> x.sum(-1));
         checks.badArgument("sum(22)", x -> x.sum(22));
-        checks.badArgument("sum(MIN)", x -> x.sum(Integer.MIN_VALUE));
-        checks.badArgument("sum(MAX)", x -> x.sum(Integer.MAX_VALUE));
+        checks.range("sum(what)", 0, 21, Checks.ARGUMENT, StakeLedger::sum);
+    }
+
+    private static void nothingChanges(Checks checks) {
+        checks.same("after sum", x -> {
+            SetUp.busy(x);
+            for (int what = 0; what <= 21; what++) {
+                x.sum(what);
+            }
+        }, SetUp::busy);
     }
 }
