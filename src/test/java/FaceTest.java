@@ -38,6 +38,9 @@ public final class FaceTest {
         for (Class<?> inside : type.getDeclaredClasses()) {
             boolean isStatic = Modifier.isStatic(inside.getModifiers());
             checks.due(inside.getName() + " is static", isStatic ? 1 : 0, 1);
+            for (Method method : inside.getDeclaredMethods()) {
+                otherName(checks, method);
+            }
         }
         checks.end();
     }
@@ -48,6 +51,7 @@ public final class FaceTest {
             String told = told(method);
             if (!missing.remove(told)) {
                 hidden(checks, told, method.getModifiers());
+                otherName(checks, method);
             } else {
                 checks.due(told + " is public", method.getModifiers(), Modifier.PUBLIC);
             }
@@ -64,6 +68,13 @@ public final class FaceTest {
 
     private static void hidden(Checks checks, String name, int modifiers) {
         checks.due(name + " is private", Modifier.isPrivate(modifiers) ? 1 : 0, 1);
+    }
+
+    private static void otherName(Checks checks, Method method) {
+        for (String one : FACE) {
+            boolean same = one.contains(" " + method.getName() + "(");
+            checks.due(method.getName() + " bears the name of a public method", same ? 1 : 0, 0);
+        }
     }
 
     private static String told(Method method) {

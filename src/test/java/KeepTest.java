@@ -7,6 +7,7 @@ public final class KeepTest {
         keptAnew(checks);
         eightApart(checks);
         fullAndEmpty(checks);
+        fullTwice(checks);
         numbers(checks);
         checks.end();
     }
@@ -97,6 +98,44 @@ public final class KeepTest {
         checks.due("sum(18)", x.sum(18), 16);
         checks.due("proposer(0, 0)", x.proposer(0, 0), -1);
         checks.due("bond(150, 1, 5, 0)", x.bond(150, 1, 5, 0), 5);
+    }
+
+    /** Two full states, alike in no bond that came and in no return. */
+    private static void fullTwice(Checks checks) {
+        StakeLedger x = new StakeLedger();
+        SetUp.fillBonds(x);
+        SetUp.fillReturns(x);
+        x.keep(3);
+        x.back(0);
+        x.next();
+        for (int i = 0; i < 80; i++) {
+            x.bond(110 + i, 15 - i % 16, 7, 1);
+        }
+        for (int i = 0; i < 32; i++) {
+            x.unbond(15 - i % 16, 15 - i % 16, 2, 1);
+        }
+        x.keep(4);
+        checks.due("back(3)", x.back(3), 0);
+        for (int i = 0; i < 80; i++) {
+            checks.due("bond " + i + " of number 3", x.account(30 + i, 1 + i % 16), 5);
+        }
+        returnsAtFour(checks, x, 6, 32);
+        checks.due("back(4)", x.back(4), 1);
+        for (int i = 0; i < 80; i++) {
+            checks.due("bond " + i + " of number 4", x.account(110 + i, 16 - i % 16), 7);
+        }
+        returnsAtFour(checks, x, 4, 0);
+        checks.due("next() to 5", x.next(), 32);
+    }
+
+    private static void returnsAtFour(Checks checks, StakeLedger x, int ofEach, int dueAtFour) {
+        for (int a = 0; a < 16; a++) {
+            checks.due("account(" + a + ", 17)", x.account(a, 17), ofEach);
+        }
+        while (x.sum(21) < 3) {
+            checks.due("next()", x.next(), 0);
+        }
+        checks.due("next() to 4", x.next(), dueAtFour);
     }
 
     private static int kept(StakeLedger x, int k) {

@@ -97,6 +97,8 @@ public final class NextTest {
         SetUp.busy(x);
         SetUp.busy(before);
         checks.due("next()", x.next(), 1);
+        checks.due("nodes 0 and 15 stay jailed: sum(16)", x.sum(16), 32769);
+        checks.due("sum(17)", x.sum(17), 25 + 7 + 25 + 7);
         for (int a = 0; a < 200; a++) {
             int back = a == 4 ? 90 : 0;
             checks.due("account(" + a + ", 0)", x.account(a, 0), before.account(a, 0) + back);
